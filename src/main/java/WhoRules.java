@@ -64,9 +64,6 @@ public final class WhoRules {
         if (kind == KIN && (family < 0 || family >= FAMILIES)) {
             return NONE;
         }
-        if (register.holderCount >= HOLDERS || kind == FIRM && register.firmCount >= FIRMS) {
-            return FULL;
-        }
         return register.enter(kind, kind == KIN ? family : 0, trace);
     }
 
@@ -79,9 +76,6 @@ public final class WhoRules {
         }
         if (register.partsIn(firm) + parts > WHOLE) {
             return STATE;
-        }
-        if (register.shareCount >= SHARES) {
-            return FULL;
         }
         return register.issue(firm, holder, parts, votes);
     }
@@ -149,7 +143,7 @@ public final class WhoRules {
             return FULL;
         }
         for (int k = n - 1; k >= 0; k--) {
-            charters.append((byte) (bytes >> 8 * k));
+            charters.append((byte) (bytes >> (8 * k)));
         }
         return charters.length;
     }
@@ -164,7 +158,8 @@ public final class WhoRules {
         if (charters.count >= Charters.TEXTS) {
             return FULL;
         }
-        return charters.enact(firm, day);
+        int fault = charters.parse();
+        return fault >= 0 ? FAULTY - fault : charters.enact(firm, day);
     }
 
     public int force(int firm, int word, int day, int share) {
@@ -768,7 +763,11 @@ public final class WhoRules {
             return isHolder(i) ? holders[i] : null;
         }
 
+        /** A new holder's number, or FULL. */
         int enter(int kindOf, int family, int[] trace) {
+            if (holderCount >= HOLDERS || kindOf == FIRM && firmCount >= FIRMS) {
+                return FULL;
+            }
             int number = holderCount;
             holders[number] = made(kindOf, number, family, trace);
             kind[number] = kindOf;
@@ -819,7 +818,11 @@ public final class WhoRules {
             return sum;
         }
 
+        /** A new share's number, or FULL. */
         int issue(int ofFirm, int holder, int partsOf, int votesOf) {
+            if (shareCount >= SHARES) {
+                return FULL;
+            }
             int number = shareCount;
             firm[number] = ofFirm;
             parts[number] = partsOf;
@@ -892,15 +895,26 @@ public final class WhoRules {
             }
         }
 
-        /** Takes the text as the next charter; a faulty one is gone without a trace. */
-        int enact(int firm, int day) {
+        /** Reads the text as the next charter, and empties it: the fault, or NONE. */
+        int parse() {
             at = 0;
             codeEnd = count * TEXT_MOST;
-            boolean whole = readText();
-            length = 0;
-            if (!whole) {
-                return FAULTY - at;
+            boolean fits = true;
+            for (int k = 0; k < CLAUSES && fits; k++) {
+                fits = readClause(count * CLAUSES + k);
+                if (fits && at >= length) {
+                    clauseCount[count] = k + 1;
+                    length = 0;
+                    return NONE;
+                }
+                fits = fits && k < CLAUSES - 1 && takes(';');
             }
+            length = 0;
+            return at;
+        }
+
+        /** The charter that was read is one from now on: its number. */
+        int enact(int firm, int day) {
             firmOf[count] = firm;
             dayOf[count] = day;
             count++;
@@ -908,22 +922,6 @@ public final class WhoRules {
         }
 
         // Each of the readers below stops at the first byte that fits nothing, so that it is the fault.
-
-        private boolean readText() {
-            for (int k = 0; k < CLAUSES; k++) {
-                if (!readClause(count * CLAUSES + k)) {
-                    return false;
-                }
-                if (at >= length) {
-                    clauseCount[count] = k + 1;
-                    return true;
-                }
-                if (k == CLAUSES - 1 || !takes(';')) {
-                    return false;
-                }
-            }
-            return false;
-        }
 
         private boolean readClause(int c) {
             int w = readWord();
@@ -993,7 +991,8 @@ public final class WhoRules {
 
         private int takesOneOf(String signs) {
             for (int i = 0; i < signs.length(); i++) {
-                if (takes(signs.charAt(i))) {
+                if (at < length && text[at] == signs.charAt(i)) {
+                    at++;
                     return i;
                 }
             }
@@ -1137,8 +1136,11 @@ public final class WhoRules {
             for (int i = first[clause]; i < second[clause]; i++) {
                 int op = code[i];
                 if (op >= 0) {
-                    int compared = Integer.compare(facts[op / LETTER_STEP], op % RELATION_STEP);
-                    stack = stack << 1 | (compared + 1 == op % LETTER_STEP / RELATION_STEP ? 1 : 0);
+                    int fact = facts[op / LETTER_STEP];
+                    int number = op % RELATION_STEP;
+                    int relation = op % LETTER_STEP / RELATION_STEP;
+                    boolean passes = relation == 0 ? fact < number : relation == 1 ? fact == number : fact > number;
+                    stack = stack << 1 | (passes ? 1 : 0);
                 } else if (op == NOT) {
                     stack ^= 1;
                 } else {
@@ -1524,7 +1526,7 @@ public final class WhoRules {
                 return 0;
             }
             if (low <= 0 && high >= rest[k]) {
-                return 1 << otherCount - k;
+                return 1 << (otherCount - k);
             }
             if (k >= otherCount) {
                 return 0;
