@@ -868,7 +868,9 @@ public final class WhoRules {
     private static final class Charters {
         private static final int TEXTS = 20, TEXT_MOST = 100, CLAUSES = 6;
         private static final int DIGITS = 3, NEST_MOST = 4;
+        /** The letters of the facts that a test may ask for, in the order in which these are told. */
         private static final String LETTERS = "khdpv", RELATIONS = "<=>";
+        private static final int FACTS = 5;
         /** What stands in the code beside the tests, which are 0 and more. */
         private static final int AND = -1, OR = -2, NOT = -3;
         private static final int RELATION_STEP = 1000, LETTER_STEP = 3000;
@@ -1161,7 +1163,7 @@ public final class WhoRules {
         final int[][] clause = new int[HOLDERS][WORDS];
         private final int[] owner = new int[SHARES];
         private final int[] weight = new int[SHARES];
-        private final int[] facts = new int[WORDS];
+        private final int[] facts = new int[Charters.FACTS];
         final int[][] votes = new int[HOLDERS][HOLDERS];
         /** Who must say yes in a firm; NOBODY if the number told is of none. */
         final int[] gold = new int[HOLDERS];
@@ -1486,7 +1488,7 @@ public final class WhoRules {
             }
             listOthers(there & ~(1 << mine) & ~golden);
             int tooFew = rule.tooFew[firm];
-            if (golden >> mine == 1) {
+            if (golden == 1 << mine) {
                 return ways(0, tooFew + 1 - blockSum[mine], rest[0]);
             }
             // Without a yes of the golden block nothing carries, so it says yes in all ways that count.
@@ -1522,14 +1524,11 @@ public final class WhoRules {
 
         /** How many sets of the other blocks from k on have low to high votes together. */
         private int ways(int k, int low, int high) {
-            if (high < 0 || low > rest[k]) {
+            if (k > otherCount || high < 0 || low > rest[k]) {
                 return 0;
             }
             if (low <= 0 && high >= rest[k]) {
                 return 1 << (otherCount - k);
-            }
-            if (k >= otherCount) {
-                return 0;
             }
             return ways(k + 1, low, high) + ways(k + 1, low - other[k], high - other[k]);
         }

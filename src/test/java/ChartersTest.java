@@ -19,6 +19,7 @@ public final class ChartersTest {
         t.votesOfDays();
         t.carry();
         t.carryGold();
+        t.faultyTextsLeaveNothing();
         t.check.end();
     }
 
@@ -196,7 +197,8 @@ public final class ChartersTest {
             {"!k=3", 0}, {"!!k=3", 1}, {"k=3&h=2", 0}, {"k=3&h=1", 1}, {"k=2|h=1", 1}, {"k=2|h=2", 0},
             {"k=3|h=2&d=0", 1}, {"(k=3|h=2)&d=0", 0}, {"h=2&d=0|k=3", 1}, {"h=2&(d=0|k=3)", 0}, {"!h=2&k=3", 1},
             {"!(h=2&k=3)", 1}, {"!(h=1&k=3)", 0}, {"!h=1|k=3", 1}, {"!(h=1|k=2)", 0}, {"h=1&k=3&d=7&p=3&v=20", 1},
-            {"h=0|k=0|d=0|p=0|v=0", 0}, {"h=0|k=0|d=0|p=0|v=20", 1}, {"((h=1&!(k=2)))|p=9", 1},
+            {"h=0|k=0|d=0|p=0|v=0", 0}, {"k<0", 0}, {"!k<0", 1}, {"k=3|k<0", 1}, {"k<0|k=3", 1}, {"k=3&k<0", 0},
+            {"k=3|h=1", 1}, {"k=2|h=2|d=7|p=3", 1}, {"k=3&(k<0|d=7)&p=3", 1}, {"h=0|k=0|d=0|p=0|v=20", 1}, {"((h=1&!(k=2)))|p=9", 1},
         };
         for (Object[] d : due) {
             WhoRules x = new WhoRules();
@@ -224,6 +226,10 @@ public final class ChartersTest {
             }
         }
         check.due("another firm", x.why(1, 3, 0), 100);
+        WhoRules first = new WhoRules();
+        first.holder(FIRM, 0);
+        Texts.charter(first, 0, 0, "gold 1");
+        check.due("text 0, clause 0", first.why(0, 3, 0), 0);
         check.due("no firm", x.why(2, 0, 0), -1);
         check.due("no firm", x.why(-1, 0, 0), -1);
         check.due("no word", x.why(0, 5, 0), -1);
@@ -330,6 +336,21 @@ public final class ChartersTest {
         check.due("never", x.carry(0, 15, 3), 0);
     }
 
+    private void faultyTextsLeaveNothing() {
+        WhoRules x = new WhoRules();
+        x.holder(FIRM, 0);
+        x.holder(PERSON, 0);
+        x.share(0, 1, 1, 1);
+        check.due("a charter", Texts.charter(x, 0, 0, "sleep k=2"), 0);
+        check.due("a fault", Texts.charter(x, 0, 0, "sleep k=1&k=2;most 4;gold 2;"), -38);
+        check.due("asleep still", x.force(0, 4, 0, 0), 1);
+        check.due("no gold", x.force(0, 3, 0, 0), -5);
+        check.due("the next charter", Texts.charter(x, 0, 0, "old 1 2"), 1);
+        check.due("asleep still", x.why(0, 4, 0), 0);
+        check.due("old", x.why(0, 2, 0), 100);
+        check.due("most", x.why(0, 1, 0), -5);
+    }
+
     private void carryGold() {
         WhoRules x = new WhoRules();
         x.holder(FIRM, 0);
@@ -346,5 +367,16 @@ public final class ChartersTest {
         x.holder(PERSON, 0);
         check.due("a gold of one now", x.carry(0, 2, 1), 0);
         check.due("with that", x.carry(0, 10, 1), 1);
+        Texts.charter(x, 0, 2, "gold 0");
+        check.due("gold 0", x.carry(0, 2, 2), 0);
+        check.due("with holder 0", x.carry(0, 3, 2), 1);
+        WhoRules y = new WhoRules();
+        y.holder(PERSON, 0);
+        y.holder(FIRM, 0);
+        y.share(1, 0, 1, 1);
+        check.due("of holder 0", y.carry(1, 1, 0), 1);
+        check.due("of the firm", y.carry(1, 2, 0), 0);
+        check.due("asleep at holder 0", Texts.charter(y, 1, 0, "sleep h=0"), 0);
+        check.due("asleep at holder 0", y.force(1, 4, 0, 0), 1);
     }
 }

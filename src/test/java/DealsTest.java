@@ -160,6 +160,10 @@ public final class DealsTest {
         check.due("nothing is sold", x.ruler(3, 0), 0);
         x.sale(1, 1);
         check.due("firm 1 has no ruler without it", x.sold(0), 2 | 8);
+        WhoRules y = four();
+        check.due("without 10 5 and 2 are more than half of the rest", y.sold(0), 1);
+        check.due("without 6 more than half of the rest", y.sold(1), 1);
+        check.due("without 2", y.sold(3), 0);
     }
 
     private void free() {

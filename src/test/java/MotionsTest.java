@@ -11,6 +11,7 @@ public final class MotionsTest {
         t.found();
         t.foundThroughOthers();
         t.ring();
+        t.longestRing();
         t.ringLeastRow();
         t.ringToday();
         t.breaks();
@@ -140,6 +141,29 @@ public final class MotionsTest {
         x.share(2, 2, 1, 0);
         ringIs(x, 2);
         check.due("breaks", x.breaks(), 1 << 3 | 1 << 5 | 1 << 6);
+    }
+
+    private void longestRing() {
+        WhoRules x = holders(FIRM, 7);
+        int[] row = {0, 5, 2, 6, 1, 4, 3};
+        for (int i = 0; i < 7; i++) {
+            x.share(row[(i + 1) % 7], row[i], 1, 0);
+        }
+        ringIs(x, row);
+        check.due("any share breaks it", x.breaks(), 1);
+        WhoRules own = holders(FIRM, 7);
+        for (int s = 0; s < 13; s++) {
+            own.share(s % 7, s % 7, 1, 0);
+        }
+        ringIs(own, 0);
+        check.due("all twelve", own.breaks(), 4095);
+        WhoRules chain = holders(FIRM, 7);
+        for (int f = 0; f < 6; f++) {
+            chain.share(f + 1, f, 2, 0);
+            chain.share(6, f, 1, 0);
+        }
+        ringIs(chain);
+        check.due("no ring", chain.breaks(), 0);
     }
 
     private void ringLeastRow() {

@@ -15,6 +15,7 @@ public final class RuleTest {
         t.allOfDays();
         t.allRefused();
         t.allWithGold();
+        t.holderZero();
         t.proof();
         t.proofTorn();
         t.proofWrong();
@@ -42,6 +43,7 @@ public final class RuleTest {
         for (int f = 0; f < 3; f++) {
             check.due("ruler of " + f, x.ruler(f, 0), 3);
         }
+        check.due("a step, asked first of all", chained().step(0, 0), 1);
         int[] steps = {3, 1, 0, 2, -1};
         for (int i = -1; i < 4; i++) {
             check.due("step " + i, x.step(0, i), steps[i + 1]);
@@ -93,6 +95,43 @@ public final class RuleTest {
         check.due("the firm itself would have to say yes", x.ruler(0, 3), -5);
         Texts.charter(x, 0, 4, "gold 4");
         check.due("a gold of none", x.ruler(0, 4), 2);
+    }
+
+    /** The first holder of all is as good a ruler as any, and as good a firm. */
+    private void holderZero() {
+        WhoRules x = new WhoRules();
+        x.holder(KIN, 0);
+        x.holder(FIRM, 0);
+        x.holder(KIN, 0);
+        x.holder(FIRM, 0);
+        x.holder(PERSON, 0);
+        x.share(1, 2, 1, 5);
+        x.share(1, 4, 1, 4);
+        x.share(3, 1, 1, 5);
+        x.share(3, 4, 1, 4);
+        check.due("rulers", x.count(8), 2);
+        check.due("ruler of 1", x.ruler(1, 0), 0);
+        check.due("ruler of 3", x.ruler(3, 0), 0);
+        check.due("steps", x.step(0, -1), 2);
+        check.due("all", x.all(0, -1, 1), 1);
+        check.due("of the one that fits", x.all(0, 0, 3), 0);
+        write(x, 0, 1, 0, 1, 0, 3, 0);
+        check.due("twice the same", x.proof(0, 0, 2), 1);
+        write(x, 0, 1, 0, 3, 0);
+        check.due("both", x.proof(0, 0, 2), 2);
+        check.due("free: the other would rule then", x.free(1), -5);
+        check.due("turns", x.pivot(3, 0), 2);
+        check.due("turns of kin", x.pivot(3, 2), 2);
+        check.due("no block", x.pivot(1, 3), 2);
+        x.sale(0, 4);
+        check.due("the other's", x.ruler(3, 0), 4);
+        check.due("buys", x.buy(0, 3, 0), -5);
+        x.price(0, 9);
+        check.due("buys", x.buy(0, 3, 0), 1);
+        check.due("changes without", x.sold(0), 0);
+        check.due("changes without", x.sold(1), 0);
+        x.sale(1, 3);
+        check.due("changes without", x.sold(0), 2 | 8);
     }
 
     private void days() {

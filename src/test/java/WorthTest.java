@@ -8,11 +8,14 @@ public final class WorthTest {
         WorthTest t = new WorthTest();
         t.worth();
         t.worthInRings();
+        t.longRing();
+        t.longChain();
         t.worthWrong();
         t.hollow();
         t.hollowFirms();
         t.turns();
         t.turnsOfGold();
+        t.turnsWithoutTheGold();
         t.turnsOfBlocks();
         t.turnsOfMany();
         t.check.end();
@@ -62,6 +65,48 @@ public final class WorthTest {
         x.share(3, 1, 7, 0);
         x.share(3, 2, 1, 0);
         worthIs(x, 3, 2, 2, 3);
+    }
+
+    /** Seven firms, each had by the next one and by a person; the numbers are those of a shared run. */
+    private void longRing() {
+        WhoRules x = new WhoRules();
+        for (int f = 0; f < 7; f++) {
+            x.holder(FIRM, 0);
+        }
+        for (int p = 7; p < 12; p++) {
+            x.holder(PERSON, 0);
+        }
+        for (int f = 0; f < 7; f++) {
+            x.share(f, (f + 1) % 7, 6, 9);
+        }
+        for (int f = 0; f < 5; f++) {
+            x.share(f, 7 + f, 5, 4);
+        }
+        x.share(5, 7, 6, 10);
+        worthIs(x, 0, 7, 166, 381);
+        worthIs(x, 6, 11, 5, 381);
+        worthIs(x, 3, 8, 5, 381);
+    }
+
+    /** Each firm is had whole by the next one, the last one by a person: all comes there. */
+    private void longChain() {
+        WhoRules x = new WhoRules();
+        for (int f = 0; f < 7; f++) {
+            x.holder(FIRM, 0);
+        }
+        x.holder(PERSON, 0);
+        for (int f = 0; f < 7; f++) {
+            x.share(f, f + 1, 12, 1);
+        }
+        for (int f = 0; f < 7; f++) {
+            check.due("not hollow " + f, x.hollow(f), 0);
+            worthIs(x, f, 7, 1, 1);
+        }
+        x.sale(6, 0);
+        for (int f = 0; f < 7; f++) {
+            check.due("hollow " + f, x.hollow(f), 1);
+            worthIs(x, f, 7, 0, 1);
+        }
     }
 
     private void worthWrong() {
@@ -174,6 +219,16 @@ public final class WorthTest {
         }
         Texts.charter(x, 0, 0, "gold 9");
         check.due("a gold of none", x.pivot(0, 1), 2);
+    }
+
+    private void turnsWithoutTheGold() {
+        WhoRules x = voters(3, 2, 2, 5);
+        Texts.charter(x, 0, 0, "gold 4");
+        // With 5 of 12 one more of any size is enough; without 5 nothing is.
+        int[] due = {0, 1, 1, 1, 7};
+        for (int h = 0; h < 5; h++) {
+            check.due("with a gold of 5, turns of " + h, x.pivot(0, h), due[h]);
+        }
     }
 
     private void turnsOfBlocks() {
