@@ -105,7 +105,7 @@ public final class ChartersTest {
 
     private void faults() {
         Object[][] due = {
-            {"", 0}, {"x", 0}, {" need 1 2", 0}, {"n", 1}, {"nest", 2}, {"mold", 2}, {"olds", 3}, {"gold", 4},
+            {"", 0}, {"x", 0}, {"n 1 2", 1}, {"sleek k=1", 4}, {" need 1 2", 0}, {"n", 1}, {"nest", 2}, {"mold", 2}, {"olds", 3}, {"gold", 4},
             {"sleep", 5}, {"sleep ", 6}, {"sleepk", 5}, {"need  1 2", 5}, {"need 1", 6}, {"need 1 ", 7}, {"need 1  2", 7},
             {"need 1 0", 8}, {"need 1 00", 9}, {"need 1 000", 9}, {"need 1 0;", 8}, {"need 1 0x", 8}, {"need 1 00 ", 9},
             {"need 1 1234", 10}, {"need 1234 1", 8}, {"need -1 2", 5}, {"need 1,2", 6}, {"most 1 2", 6}, {"old 3", 5},

@@ -7,6 +7,7 @@ public final class DealsTest {
     public static void main(String[] args) {
         DealsTest t = new DealsTest();
         t.buy();
+        t.buyCheaperMore();
         t.buyBySteps();
         t.buySinceToday();
         t.buyEightAtMost();
@@ -61,6 +62,27 @@ public final class DealsTest {
         bought(x, 1, 0, 1 | 8, 9);
         x.price(0, 0);
         bought(x, 1, 0, 2 | 4 | 8, 16);
+    }
+
+    /** The cheaper set is the one to buy, though the dearer one has fewer shares. */
+    private void buyCheaperMore() {
+        WhoRules x = new WhoRules();
+        x.holder(FIRM, 0);
+        x.holder(PERSON, 0);
+        x.holder(PERSON, 0);
+        x.holder(PERSON, 0);
+        x.share(0, 1, 1, 4);
+        x.share(0, 1, 1, 4);
+        x.share(0, 2, 1, 10);
+        x.share(0, 3, 1, 8);
+        x.price(0, 1);
+        x.price(1, 1);
+        x.price(2, 9);
+        bought(x, 3, 0, 1 | 2, 2);
+        x.price(2, 2);
+        bought(x, 3, 0, 4, 2);
+        x.price(2, 1);
+        bought(x, 3, 0, 4, 1);
     }
 
     private void buyBySteps() {

@@ -55,6 +55,8 @@ public final class MotionsTest {
         x.holder(PERSON, 0);
         x.holder(0, 0);
         x.motion(3, 0);
+        check.due("alike in the first", x.alike(0, 1, 0), 1);
+        check.due("not apart in it", x.alike(0, 1, 1), 0);
         x.motion(1, 2);
         x.motion(0, 3);
         x.motion(4, 1);

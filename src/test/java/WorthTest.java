@@ -229,6 +229,13 @@ public final class WorthTest {
         for (int h = 0; h < 5; h++) {
             check.due("with a gold of 5, turns of " + h, x.pivot(0, h), due[h]);
         }
+        WhoRules y = voters(4, 2, 1, 3);
+        Texts.charter(y, 0, 0, "gold 4;need 2 3");
+        // 7 of 10 are needed: 4 and 3 are always among them, and enough.
+        int[] then = {0, 4, 0, 0, 4};
+        for (int h = 0; h < 5; h++) {
+            check.due("with a gold of 3, turns of " + h, y.pivot(0, h), then[h]);
+        }
     }
 
     private void turnsOfBlocks() {
