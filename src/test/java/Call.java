@@ -72,7 +72,7 @@ record Call(String name, long... a) {
         };
     }
 
-    private static List<Call> feeds(String text) {
+    static List<Call> feeds(String text) {
         List<Call> calls = new ArrayList<>();
         for (int i = 0; i < text.length(); i += 4) {
             int n = Math.min(4, text.length() - i);

@@ -49,7 +49,7 @@ final class Edges {
             check.due(label + call + " behind " + world, answer, ((Number) callsAndAnswers[k + 1]).longValue());
         }
         check.due(label + "calls of one object", made.size() <= CALLS_MOST - LEFT ? 1 : 0, 1);
-        compare(label, made, kept);
+        compare(check, label, made, kept);
     }
 
     private static WhoRules after(List<Call> calls) {
@@ -60,7 +60,8 @@ final class Edges {
         return x;
     }
 
-    private void compare(String label, List<Call> made, List<Call> kept) {
+    /** One object behind all calls that were made, and its twin behind those that were kept: all answers are alike. */
+    static void compare(Check check, String label, List<Call> made, List<Call> kept) {
         int room = Math.max(LEFT, CALLS_MOST - made.size());
         for (List<Call> some : asks(after(kept))) {
             for (int from = 0; from < some.size(); from += room) {

@@ -82,6 +82,15 @@ public final class EdgesOfChartersTest {
                 "charter(0,0)", -10, "feed(120,1)", 1);
         edges.due("a FAULT leaves the charters", TWO + "'most 7' charter(0,0) 'most 8;most 9;'", "charter(0,0)", -24,
                 "force(0,1,0,0)", 7, "why(0,1,0)", 0, "count(5)", 1);
+        edges.due("THE TEXT, which is empty then: nothing of a longer one is left", TWO + "'most 7' charter(0,0) 'most'", "charter(0,0)", -14,
+                "why(0,1,0)", 0, "count(5)", 1);
+        edges.due("THE TEXT, which is empty then: nothing of a longer one is left, by and by", TWO + "'sleep (k=1|k=2)' charter(0,0) ",
+                "feed(0x736C6565,4)", 4, "feed(0x70,1)", 5, "charter(0,0)", -15, "feed(0x736C6565,4)", 4, "feed(0x70206B,3)", 7,
+                "charter(0,0)", -17, "feed(0x736C6565,4)", 4, "feed(0x7020,2)", 6, "charter(0,0)", -16);
+        edges.due("a FAULT leaves nothing to the next charter", ONE_SHARE + "'most 999;' charter(0,0) 'sleep v>0' charter(0,0)",
+                "force(0,4,0,0)", 1, "force(0,1,0,0)", 999, "why(0,1,0)", -5, "why(0,4,0)", 0);
+        edges.due("a FAULT leaves nothing to the next charter: more clauses", ONE_SHARE + "'sleep k=2;gold 1;need 1 3;' charter(0,0) "
+                + "'old 1 2' charter(0,0)", "force(0,4,0,0)", 0, "force(0,3,0,0)", -5, "force(0,0,0,0)", 1002, "force(0,2,0,0)", 1002);
         edges.due("a number after a FAULT", TWO + "'most 7' charter(0,0) 'most' charter(0,0) 'most 8'", "charter(0,0)", 1,
                 "why(0,1,0)", 100);
     }
@@ -325,6 +334,11 @@ public final class EdgesOfChartersTest {
         edges.due("of 0 VOTES", asleep + "share(0,1,1,0)", "force(0,4,3,1)", 0);
         edges.due("of the FIRM itself, of FUNDS and CLUBS", asleep + "holder(4,0) holder(5,0) share(0,0,1,1) share(0,2,1,1) share(0,3,1,1)",
                 "force(0,4,3,1)", 1, "force(0,4,3,2)", 1, "force(0,4,3,3)", 1);
+        edges.due("by the E of its own charter", ONE_SHARE + "holder(1,0) 'sleep k=2&v=20' charter(0,0) 'sleep k=9|v=9|k=8' charter(2,0) "
+                + "'sleep !v=20' charter(2,5)", "force(0,4,0,0)", 1, "force(2,4,0,0)", 0, "force(0,4,5,0)", 1, "force(2,4,5,0)", 0);
+        String longest = "'" + of(93, "sleep k=1", "|k=1") + "|v=20' charter(0,0) ";
+        edges.due("by the longest E, of fifteen", ONE_SHARE + "14*{" + longest + "} '" + of(97, "sleep k=1", "|k=1") + "' charter(0,5)",
+                "force(0,4,0,0)", 1, "why(0,4,0)", 1300, "force(0,4,5,0)", 0, "why(0,4,5)", 1400);
         edges.due("the last SHARE", TWO + "40*share(0,1,0,2) 'sleep v=2' charter(0,0)", "force(0,4,0,39)", 1, "force(0,4,0,40)", -1);
         edges.due("d DAYS since when it has the SHARE", ONE_SHARE + "'sleep d=0' charter(0,0) pass(5) sale(0,0)", "force(0,4,0,0)", 1,
                 "force(0,4,1,0)", 0, "force(0,4,4,0)", 0, "force(0,4,5,0)", 1, "force(0,4,6,0)", 0);
@@ -352,7 +366,7 @@ public final class EdgesOfChartersTest {
             {"k=3&v=20", 1}, {"k=3&v=9", 0}, {"k=9&v=20", 0}, {"k=9&v=9", 0}, {"k=3|v=20", 1}, {"k=3|v=9", 1}, {"k=9|v=20", 1},
             {"k=9|v=9", 0}, {"!k=3", 0}, {"!k=9", 1}, {"!!k=3", 1}, {"!!!k=3", 0}, {"!!!!k=3", 1}, {"k=3|k=3&k=9", 1}, {"(k=3|k=3)&k=9", 0},
             {"k=9&k=9|k=3", 1}, {"k=9&(k=9|k=3)", 0}, {"!k=9&k=9", 0}, {"!(k=9&k=9)", 1}, {"!k=3|k=3", 1}, {"!(k=3|k=3)", 0},
-            {"((((k=3))))", 1}, {"!(!(k=3))", 1}, {"k=9|k=9|k=9|k=3", 1}, {"k=3&k=3&k=3&k=9", 0},
+            {"k<0", 0}, {"!k<0", 1}, {"k=3|k<0", 1}, {"k<0|k=3", 1}, {"k=3&k<0", 0}, {"k<0|k<0", 0}, {"((((k=3))))", 1}, {"!(!(k=3))", 1}, {"k=9|k=9|k=9|k=3", 1}, {"k=3&k=3&k=3&k=9", 0},
         };
         for (Object[] row : joined) {
             edges.due("E: T or T|E, T: F or F&T, F: !F, (E)", world + "'sleep " + row[0] + "' charter(0,0)", "force(0,4,7,0)", row[1]);
@@ -368,6 +382,9 @@ public final class EdgesOfChartersTest {
                 "why(0,0,0)", 4, "why(0,1,0)", 3, "why(0,2,0)", 2, "why(0,3,0)", 5, "why(0,4,0)", 0);
         edges.due("100 times the text, and its CLAUSE: the last", TWO + "19*{'most 7' charter(0,0)} "
                 + "'gold 1;gold 1;gold 1;gold 1;gold 1;most 1' charter(0,0)", "why(0,1,0)", 1905, "why(0,3,0)", 1904);
+        edges.due("of the last text each word", ONE_SHARE + "19*{'most 7' charter(0,0)} 'gold 5;sleep v>0;old 1 2;most 1;need 2 3' charter(0,0)",
+                "why(0,0,0)", 1904, "why(0,1,0)", 1903, "why(0,2,0)", 1902, "why(0,3,0)", 1900, "why(0,4,0)", 1901, "force(0,0,0,0)", 2003,
+                "force(0,1,0,0)", 1, "force(0,2,0,0)", 1002, "force(0,3,0,0)", 5, "force(0,4,0,0)", 1);
         edges.due("a DAY on", TWO + "'most 1' charter(0,5)", "why(0,1,4)", -5, "why(0,1,5)", 0, "why(0,1,999)", 0);
         edges.due("of several the latest, by DAYS", TWO + "'most 1' charter(0,5) 'gold 1;most 1' charter(0,5) 'most 1' charter(0,4)",
                 "why(0,1,3)", -5, "why(0,1,4)", 200, "why(0,1,5)", 101);
@@ -423,6 +440,7 @@ public final class EdgesOfChartersTest {
         edges.due("all together, not each", ONE_SHARE + "share(0,1,0,20) 'most 30' charter(0,0)", "votes(0,1,0)", 30);
         edges.due("each HOLDER's, not all HOLDERS'", ONE_SHARE + "holder(2,0) share(0,2,0,25) 'most 20' charter(0,0)", "votes(0,1,0)", 20,
                 "votes(0,2,0)", 20);
+        edges.due("of HOLDER 0", "holder(2,0) holder(1,0) share(1,0,0,20) 'most 19' charter(1,0)", "votes(1,0,0)", 19);
         edges.due("most behind old", ONE_SHARE + "'old 0 3;most 50' charter(0,0)", "votes(0,1,0)", 50);
         edges.due("without any: most 999", TWO + "10*share(0,1,0,99) share(0,1,0,9)", "votes(0,1,0)", 999);
         edges.due("without any: most 999, below it", TWO + "10*share(0,1,0,99) share(0,1,0,8)", "votes(0,1,0)", 998);
@@ -442,6 +460,8 @@ public final class EdgesOfChartersTest {
         edges.due("a set of none, of all", ONE_SHARE, "carry(0,0,0)", 0, "carry(0,3,0)", 1);
         edges.due("a set of all 16", "holder(1,0) 15*holder(2,0) share(0,15,1,1)", "carry(0,65535,0)", 1, "carry(0,32768,0)", 1,
                 "carry(0,32767,0)", 0, "carry(0,65536,0)", -2, "carry(0,98303,0)", -2);
+        edges.due("a set with HOLDER 0", "holder(2,0) holder(1,0) holder(2,0) share(1,0,1,5) share(1,2,1,4)", "carry(1,1,0)", 1, "carry(1,4,0)", 0,
+                "carry(1,5,0)", 1, "carry(1,6,0)", 0, "votes(1,0,0)", 5);
         edges.due("NONE ahead of BAD", ONE_SHARE, "carry(1,4,0)", -1, "carry(0,4,1000)", -1, "carry(0,-1,-1)", -1);
         edges.due("on a DAY", TWO + "pass(5) share(0,1,1,20) pass(5) sale(0,0)", "carry(0,2,4)", 0, "carry(0,2,5)", 1, "carry(0,2,9)", 1,
                 "carry(0,2,10)", 0);

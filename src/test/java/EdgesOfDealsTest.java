@@ -79,6 +79,11 @@ public final class EdgesOfDealsTest {
                 + "price(8,9) price(9,9)", 1, 0, 256, 9);
         bought("SHARES of any FIRM are counted, ahead of it", "holder(1,0) holder(1,0) 2*holder(2,0) 8*share(1,3,0,1) share(0,3,0,9) " + prices
                 + "price(7,1) price(8,1)", 2, 0, -5, -5);
+        edges.due("asked again, less for sale", FOUR + "price(1,3) price(2,4) price(3,5)", "buy(1,0,0)", 2, "buy(2,0,0)", 12, "price(1,0)", 3,
+                "buy(1,0,0)", 4, "buy(1,0,1)", 4, "price(2,0)", 4, "price(3,0)", 5, "buy(1,0,0)", -5, "buy(2,0,0)", -5);
+        edges.due("asked again, eight others for sale", THREE + "8*share(0,2,0,1) 8*share(0,2,0,9) " + prices + "price(7,1)", "buy(1,0,0)", -5,
+                "price(0,0)", 1, "price(8,99)", 0, "buy(1,0,0)", -5, "price(1,0)", 1, "price(2,0)", 1, "price(3,0)", 1, "price(9,99)", 0,
+                "price(10,99)", 0, "price(11,99)", 0, "buy(1,0,0)", -5, "price(4,0)", 1, "price(12,99)", 0, "buy(1,0,0)", 7936);
         bought("bit 39: SHARE 39", THREE + "39*share(0,2,0,0) share(0,2,0,9) price(39,5)", 1, 0, 549755813888L, 5);
         bought("bits beyond 31", THREE + "31*share(0,2,0,0) share(0,2,0,9) share(0,2,0,9) share(0,1,0,10) price(31,5) price(32,5)", 1, 0,
                 2147483648L, 5);
@@ -96,6 +101,8 @@ public final class EdgesOfDealsTest {
         bought("of several the least as bits: of two SHARES", THREE + "share(0,2,0,5) share(0,2,0,5) share(0,2,0,5) share(0,1,0,1) "
                 + "price(0,2) price(1,2) price(2,2)", 1, 0, 3, 4);
         bought("cheaper by one", FOUR + "price(1,5) price(2,5) price(3,4)", 1, 0, 8, 4);
+        bought("HOLDER 0 buys", "holder(2,0) holder(1,0) holder(2,0) share(1,2,1,5) share(1,2,1,4) price(0,3) price(1,2)", 0, 1, 1, 3);
+        bought("of HOLDER 0", "holder(2,0) holder(1,0) holder(2,0) share(1,0,1,5) price(0,3)", 2, 1, 1, 3);
         bought("the empty set costs nothing", THREE + "share(0,1,1,1) share(0,2,1,1) share(0,1,1,1) price(1,1)", 1, 0, 0, 0);
     }
 
@@ -150,6 +157,10 @@ public final class EdgesOfDealsTest {
         edges.due("NO: it has no RULER", FOUR, "free(0)", NO);
         edges.due("NO: it has no RULER, and no SHARES", THREE, "free(0)", NO);
         edges.due("one SHARE", THREE + "share(0,1,1,1)", "free(0)", 1);
+        edges.due("HOLDER 0's", "holder(2,0) holder(1,0) holder(2,0) share(1,0,1,5)", "free(1)", 1, "sold(0)", 2);
+        edges.due("-5: none such, HOLDER 0 rules then", "holder(2,0) holder(1,0) holder(2,0) share(1,2,1,5) share(1,0,1,4)", "free(1)", -5);
+        edges.due("asked of one FIRM after another", "2*holder(1,0) 2*holder(2,0) share(0,2,0,1) share(1,3,0,1)", "free(0)", 1, "free(1)", 2,
+                "free(0)", 1);
         edges.due("-5: none such, another rules then", THREE + "share(0,1,1,5) share(0,2,1,4)", "free(0)", -5);
         edges.due("the fewest", THREE + "holder(2,0) share(0,1,0,2) share(0,1,0,2) share(0,1,0,6) share(0,2,0,3) share(0,3,0,4)",
                 "free(0)", 4);
@@ -175,6 +186,8 @@ public final class EdgesOfDealsTest {
         edges.of(24);
         edges.due("8 at most by numbers: eight", THREE + "8*share(0,1,0,1)", "free(0)", 255);
         edges.due("8 at most by numbers: the ninth is not looked at", THREE + "9*share(0,1,0,1)", "free(0)", -5);
+        edges.due("8 at most: asked of another FIRM after eight", THREE + "holder(1,0) 8*share(0,1,0,1) share(3,2,0,1)", "free(0)", 255,
+                "free(3)", 256, "free(0)", 255);
         edges.due("8 at most: of any FIRM", THREE + "holder(1,0) 8*share(3,1,0,1) share(0,1,0,1)", "free(0)", -5);
         edges.due("8 at most: the eighth", THREE + "holder(1,0) 7*share(3,1,0,1) share(0,1,0,1)", "free(0)", 128);
         edges.due("8 at most: of the GROUP alone", THREE + "holder(1,0) 7*share(3,1,0,1) share(0,2,0,0) share(0,1,0,1)", "free(0)", 256);

@@ -82,6 +82,8 @@ public final class EdgesOfMotionsTest {
         edges.due("sets of two or more: one of all", "16*holder(2,0) motion(65535,0)", "found(1)", 1);
         edges.due("sets of two or more: not one alone", "3*holder(2,0) motion(1,2) motion(4,0)", "found(1)", 0);
         edges.due("and through others", "3*holder(2,0) motion(3,0) motion(6,0) motion(1,4)", "alike(0,2,1)", 1, "found(1)", 1);
+        edges.due("and through others: HOLDER 0", "3*holder(2,0) motion(3,0) motion(5,0) motion(2,4)", "found(1)", 1);
+        edges.due("and through others: the last", "16*holder(2,0) motion(32769,0) motion(49152,0) motion(1,16384)", "found(1)", 1);
         edges.due("and through others: a chain of 16", "16*holder(2,0) motion(3,0) motion(6,0) motion(12,0) motion(24,0) motion(48,0) "
                 + "motion(96,0) motion(192,0) motion(384,0) motion(768,0) motion(1536,0) motion(3072,0) motion(6144,0) motion(12288,0) "
                 + "motion(24576,0) motion(49152,0)", "found(1)", 1, "found(2)", 0);
@@ -106,6 +108,8 @@ public final class EdgesOfMotionsTest {
         edges.due("of 1 PART or more", SEVEN + "share(6,6,0,99)", "ring(-1)", 0);
         edges.due("has SHARES in the next one", three, "ring(1)", 1);
         edges.due("TODAY", three + "pass(5) sale(1,4)", "ring(-1)", 0, "sale(1,1)", 2, "ring(-1)", 3);
+        edges.due("TODAY: asked again", three, "ring(-1)", 3, "sale(1,4)", 1, "ring(-1)", 0, "ring(0)", -1, "breaks()", 0, "sale(1,2)", 2,
+                "ring(-1)", 1, "ring(0)", 2, "ring(1)", -1);
         edges.due("not through one that is no FIRM", "2*holder(1,0) holder(2,0) share(0,1,1,0) share(1,2,1,0)", "ring(-1)", 0);
         edges.due("FIRMS told by their numbers as HOLDERS", "9*holder(2,0) 7*holder(1,0) share(15,9,1,0) share(9,15,1,0)", "ring(-1)", 2,
                 "ring(0)", 9, "ring(1)", 15);

@@ -40,6 +40,9 @@ public final class EdgesOfRuleTest {
                 "6*holder(1,0) 2*holder(0,0) holder(4,0) holder(5,0) holder(2,0) share(0,6,1,9) share(1,8,1,9) share(2,9,1,9) "
                 + "share(3,4,1,9) share(5,5,1,9)", "ruler(0,0)", -5, "ruler(1,0)", -5, "ruler(2,0)", -5, "ruler(3,0)", -5, "ruler(5,0)", -5);
         edges.due("HOLDER 0 as a RULER, the last as a FIRM", "holder(2,0) 14*holder(0,0) holder(1,0) share(15,0,1,1)", "ruler(15,0)", 0);
+        edges.due("HOLDER 0 as a RULER, through a FIRM", "holder(2,0) 2*holder(1,0) holder(2,0) share(1,0,1,5) share(1,3,1,4) share(2,1,1,5) "
+                + "share(2,3,1,4)", "ruler(1,0)", 0, "ruler(2,0)", 0, "step(0,-1)", 2, "step(0,0)", 1, "step(0,1)", 2, "step(0,2)", -1,
+                "all(0,-1,1)", 1, "all(0,0,2)", 0);
         edges.due("the last HOLDER as a RULER", "holder(1,0) 14*holder(0,0) holder(2,0) share(0,15,1,1)", "ruler(0,0)", 15);
     }
 
@@ -207,6 +210,9 @@ public final class EdgesOfRuleTest {
     private void proofGood() {
         edges.of(18);
         edges.due("a FIRM without a RULER so far", CHAIN + pairs(0, 1, 3, 1, 3, 0, 3), "proof(0,0,3)", 1);
+        edges.due("a FIRM without a RULER so far: HOLDER 0 rules it", "holder(2,0) holder(1,0) share(1,0,1,1) " + pairs(0, 1, 0, 1, 0),
+                "proof(0,0,1)", 1, "proof(0,0,2)", 1);
+        edges.due("told twice anew", CHAIN + pairs(0, 1, 3, 0, 3), "proof(0,0,2)", 2, "proof(0,0,2)", 2, "ruler(2,0)", 3, "proof(0,0,1)", 1);
         edges.due("the first that is not good ends it", CHAIN + pairs(0, 1, 3, 2, 3, 0, 3), "proof(0,0,3)", 1);
         edges.due("no FIRM", CHAIN + pairs(0, 3, 3) + pairs(1, -1, 3) + pairs(2, 5, 3) + pairs(3, 32767, 3) + pairs(4, -32768, 3),
                 "proof(0,0,1)", 0, "proof(1,0,1)", 0, "proof(2,0,1)", 0, "proof(3,0,1)", 0, "proof(4,0,1)", 0);

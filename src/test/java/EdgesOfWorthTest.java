@@ -68,6 +68,9 @@ public final class EdgesOfWorthTest {
         worthIs("what comes to a HOLLOW FIRM stays there", THREE + "holder(1,0) share(0,3,6,0) share(0,1,6,0) share(3,3,12,0)", 0, 1, 1, 2);
         worthIs("of a FIRM behind, nothing comes back", THREE + "holder(1,0) share(0,3,6,0) share(3,1,4,0)", 3, 1, 1, 3);
         worthIs("two ways to one HOLDER", THREE + "holder(1,0) share(0,3,6,0) share(0,1,6,0) share(3,1,12,0)", 0, 1, 1, 1);
+        edges.due("asked after another FIRM", THREE + "holder(1,0) share(0,1,6,0) share(3,3,12,0)", "worth(0,1,0)", 1, "worth(0,1,1)", 2,
+                "worth(3,1,0)", 0, "worth(3,1,1)", 1, "hollow(3)", 1, "hollow(0)", 0);
+        worthIs("for HOLDER 0, of the last FIRM", "holder(2,0) 14*holder(0,0) holder(1,0) share(15,0,7,0)", 15, 0, 7, 12);
         worthIs("a FIRM that another has, without SHARES of its own", THREE + "holder(1,0) share(0,3,12,0)", 0, 1, 0, 1);
     }
 
@@ -156,6 +159,10 @@ public final class EdgesOfWorthTest {
                 + "share(0,4,0,1)", "pivot(0,1)", 4, "pivot(0,3)", 0);
         edges.due("PERSONS are no FAMILY", "holder(1,0) 2*holder(2,0) holder(3,0) share(0,1,0,2) share(0,2,0,2) share(0,3,0,2)",
                 "pivot(0,1)", 2, "pivot(0,2)", 2, "pivot(0,3)", 2);
+        edges.due("HOLDER 0 and a FIRM that it rules", "holder(2,0) 2*holder(1,0) 2*holder(2,0) share(1,0,0,1) share(2,1,0,3) share(2,3,0,2) "
+                + "share(2,4,0,2)", "pivot(2,0)", 2, "pivot(2,1)", 2, "pivot(2,3)", 2);
+        edges.due("HOLDER 0 with VOTES", "holder(2,0) holder(1,0) 2*holder(2,0) share(1,0,0,3) share(1,2,0,2) share(1,3,0,2)", "pivot(1,0)", 2,
+                "pivot(1,2)", 2, "pivot(1,1)", 0);
         edges.due("by LEAST of TODAY", "2*holder(1,0) 2*holder(2,0) share(1,2,0,1) share(0,1,0,3) share(0,3,0,2) pass(5) sale(0,3)",
                 "pivot(0,3)", 1, "pivot(0,1)", 1, "pivot(0,2)", 0);
     }
@@ -177,6 +184,12 @@ public final class EdgesOfWorthTest {
         edges.due("the FIRM itself is gold", voters(3, 2, 2) + "'gold 0' charter(0,0)", "pivot(0,0)", 4, "pivot(0,1)", 2);
         edges.due("a FUND is gold", voters(3, 2, 2) + "holder(4,0) 'gold 4' charter(0,0)", "pivot(0,4)", 4, "pivot(0,3)", 2);
         edges.due("gold with VOTES", voters(3, 2, 2) + "'gold 2' charter(0,0)", "pivot(0,2)", 3, "pivot(0,1)", 1, "pivot(0,3)", 1);
+        edges.due("gold with the most VOTES", voters(3, 2, 2, 5) + "'gold 4' charter(0,0)", "pivot(0,4)", 7, "pivot(0,1)", 1, "pivot(0,2)", 1,
+                "pivot(0,3)", 1);
+        edges.due("gold with VOTES, need 2 3", voters(4, 2, 1, 3) + "'gold 4;need 2 3' charter(0,0)", "pivot(0,4)", 4, "pivot(0,1)", 4,
+                "pivot(0,2)", 0, "pivot(0,3)", 0);
+        edges.due("gold is HOLDER 0", "holder(2,0) holder(1,0) 2*holder(2,0) share(1,2,0,3) share(1,3,0,2) 'gold 0' charter(1,0)",
+                "pivot(1,0)", 2, "pivot(1,2)", 2, "pivot(1,3)", 0);
         edges.due("gold of nobody", voters(3, 2, 2) + "'gold 4' charter(0,0)", "pivot(0,1)", 2, "pivot(0,2)", 2);
         edges.due("gold of KIN without VOTES", "holder(1,0) 2*holder(3,1) 2*holder(2,0) share(0,1,0,3) share(0,3,0,2) share(0,4,0,2) "
                 + "'gold 2' charter(0,0)", "pivot(0,1)", 3, "pivot(0,2)", 3, "pivot(0,3)", 1);

@@ -1,8 +1,4 @@
-import java.lang.reflect.InvocationTargetException;
-import java.lang.reflect.Method;
-import java.lang.reflect.Modifier;
 import java.util.ArrayList;
-import java.util.Comparator;
 import java.util.List;
 
 /** Wild arguments in many states: no call throws, and what is refused changes nothing. */
@@ -12,154 +8,123 @@ public final class ExtremesTest {
         15, 16, 17, 19, 20, 29, 30, 31, 32, 38, 39, 40, 41, 59, 60, 61, 63, 64, 98, 99, 100, 101, 119, 120, 121, 511, 998,
         999, 1000, 1001, 32767, 32768, 65535, 65536, Integer.MAX_VALUE - 1, Integer.MAX_VALUE,
     };
+    private static final String[] NAMES = {
+        "pass", "holder", "share", "price", "sale", "of", "held", "feed", "charter", "force", "why", "votes", "carry", "ruler",
+        "step", "all", "proof", "worth", "hollow", "pivot", "buy", "sold", "free", "may", "motion", "alike", "found", "ring",
+        "breaks", "act", "trace", "taken", "count", "tape", "item", "read", "shift",
+    };
+    private static final int[] ARGUMENTS = {
+        1, 2, 4, 2, 2, 2, 3, 2, 2, 4, 3, 3, 3, 2, 2, 3, 3, 3, 1, 2, 3, 1, 1, 4, 2, 3, 1, 1, 0, 3, 1, 2, 1, 3, 3, 2, 5,
+    };
+    private static final int CALLS_MOST = 512;
 
     private final Check check = new Check("extremes");
     private final Dice dice = new Dice(77);
-    private final List<Method> face = new ArrayList<>();
 
     private ExtremesTest() {
-        for (Method m : WhoRules.class.getDeclaredMethods()) {
-            if (Modifier.isPublic(m.getModifiers())) {
-                face.add(m);
-            }
-        }
-        face.sort(Comparator.comparing(Method::getName));
     }
 
-    public static void main(String[] args) throws IllegalAccessException {
+    public static void main(String[] args) {
         ExtremesTest t = new ExtremesTest();
-        for (int round = 0; round < 300; round++) {
-            t.wild(300);
-        }
-        for (int round = 0; round < 30; round++) {
-            t.refusals(200);
+        for (int round = 0; round < 600; round++) {
+            t.wild(round);
         }
         t.fullest();
         t.check.end();
     }
 
-    private long wildCall(WhoRules x, Method m) throws IllegalAccessException {
-        Class<?>[] kinds = m.getParameterTypes();
-        Object[] arguments = new Object[kinds.length];
-        for (int i = 0; i < kinds.length; i++) {
-            int v = dice.one(3) ? dice.below(8) : WILD[dice.below(WILD.length)];
-            if (kinds[i] == long.class) {
-                arguments[i] = (long) v << dice.below(40);
-            } else {
-                arguments[i] = v;
+    private Call wildCall() {
+        int which = dice.below(NAMES.length);
+        long[] a = new long[ARGUMENTS[which]];
+        for (int i = 0; i < a.length; i++) {
+            a[i] = dice.one(3) ? dice.below(8) : WILD[dice.below(WILD.length)];
+        }
+        if (NAMES[which].equals("item")) {
+            a[2] <<= dice.below(40);
+        }
+        return new Call(NAMES[which], a);
+    }
+
+    /** Calls that make a world of any size; many of them are refused. */
+    private List<Call> anyWorld() {
+        StringBuilder s = new StringBuilder();
+        int holders = dice.below(17);
+        for (int h = 0; h < holders; h++) {
+            s.append("holder(" + (dice.one(2) ? 1 : dice.below(6)) + "," + dice.below(4) + ") ");
+        }
+        List<Call> calls = Call.read(s.toString());
+        TextMaker texts = new TextMaker(dice);
+        for (int k = 0; k < 40 && holders > 0; k++) {
+            calls.add(new Call("share", dice.below(holders), dice.below(holders), dice.below(5), dice.below(100)));
+            calls.add(new Call("sale", dice.below(40), dice.below(holders)));
+            calls.add(new Call("price", dice.below(40), dice.below(10)));
+            if (dice.one(4)) {
+                calls.addAll(Call.feeds(texts.text()));
+                calls.add(new Call("charter", dice.below(holders), dice.below(30)));
+                calls.add(new Call("pass", dice.below(9)));
+                calls.add(new Call("tape", dice.below(6), dice.below(5), dice.below(61)));
+                calls.add(new Call("motion", dice.below(1 << holders), 0));
             }
         }
+        return calls.size() > CALLS_MOST / 2 ? calls.subList(0, CALLS_MOST / 2) : calls;
+    }
+
+    /** The twin gets none of the calls that are refused, and none that only asks. */
+    private void wild(int round) {
+        List<Call> made = new ArrayList<>(anyWorld());
+        while (made.size() < CALLS_MOST * 3 / 4) {
+            made.add(wildCall());
+        }
+        WhoRules x = new WhoRules();
+        List<Call> kept = new ArrayList<>();
+        for (Call call : made) {
+            long answer = answer(x, call);
+            if (call.changes() && !call.isRefused(answer)) {
+                kept.add(call);
+            }
+        }
+        Edges.compare(check, "round " + round + ", ", made, kept);
+    }
+
+    private long answer(WhoRules x, Call call) {
         try {
-            return ((Number) m.invoke(x, arguments)).longValue();
-        } catch (InvocationTargetException e) {
-            check.text(m.getName() + java.util.Arrays.toString(arguments), "threw " + e.getCause(), "an answer");
+            return call.on(x);
+        } catch (RuntimeException e) {
+            check.text(call.toString(), "threw " + e, "an answer");
             return 0;
         }
     }
 
-    private WhoRules anyWorld() {
-        WhoRules x = new WhoRules();
-        int holders = dice.below(17);
-        for (int h = 0; h < holders; h++) {
-            x.holder(dice.one(2) ? 1 : dice.below(6), dice.below(4));
+    /** Nearly everything at its limit: the sums that are greatest and the searches that are longest still answer. */
+    private static WhoRules fullWorld() {
+        StringBuilder s = new StringBuilder("7*holder(1,0) 9*holder(2,0) ");
+        for (int k = 0; k < 40; k++) {
+            s.append("share(" + k % 7 + "," + (k % 2 == 0 ? (k + 1) % 7 : 7 + k % 9) + "," + (k < 35 ? 2 : 1) + ",99) ");
+            s.append("price(" + k + ",999) ");
         }
-        TextMaker texts = new TextMaker(dice);
-        for (int k = 0; k < 60 && holders > 0; k++) {
-            x.share(dice.below(holders), dice.below(holders), dice.below(5), dice.below(100));
-            x.sale(dice.below(40), dice.below(holders));
-            x.price(dice.below(40), dice.below(10));
-            x.motion(dice.below(1 << holders), 0);
-            if (dice.one(4)) {
-                Texts.charter(x, dice.below(holders), dice.below(30), texts.text());
-                x.pass(dice.below(9));
-                x.tape(dice.below(6), dice.below(5), dice.below(61));
-            }
+        StringBuilder text = new StringBuilder("old 1 999;most 999;need 998 999;sleep !!!!k=9");
+        while (text.length() < 96) {
+            text.append("|h=9");
+        }
+        for (int c = 0; c < 7; c++) {
+            s.append("'" + text + "' charter(" + c + ",0) ");
+        }
+        s.append("pass(9) ");
+        for (int k = 0; k < 120; k++) {
+            s.append("sale(" + k % 40 + "," + (k * 3 + k / 40) % 16 + ") ");
+        }
+        WhoRules x = new WhoRules();
+        for (Call call : Call.read(s.toString())) {
+            call.on(x);
         }
         return x;
     }
 
-    private void wild(int calls) throws IllegalAccessException {
-        WhoRules x = anyWorld();
-        for (int k = 0; k < calls; k++) {
-            wildCall(x, face.get(dice.below(face.size())));
-        }
-        check.due("still there", x.count(1) >= 0 && x.count(1) <= 16 ? 1 : 0, 1);
-    }
-
-    /** What answers NONE, BAD, STATE, FULL or a refusal of the host has changed nothing. */
-    private void refusals(int calls) throws IllegalAccessException {
-        WhoRules x = anyWorld();
-        String before = seen(x);
-        for (int k = 0; k < calls; k++) {
-            Method m = face.get(dice.below(face.size()));
-            if (m.getName().equals("act")) {
-                continue;
-            }
-            long answer = wildCall(x, m);
-            String after = seen(x);
-            boolean refused = answer >= -4 && answer < 0 || answer >= -14 && answer <= -11 || answer == Long.MIN_VALUE;
-            if (refused && !m.getName().equals("charter")) {
-                check.text("after " + m.getName(), after, before);
-            }
-            before = after;
-        }
-    }
-
-    private static String seen(WhoRules x) {
-        StringBuilder s = new StringBuilder();
-        for (int what = 0; what <= 9; what++) {
-            s.append(x.count(what)).append(' ');
-        }
-        for (int share = 0; share < 40; share++) {
-            for (int what = 0; what < 4; what++) {
-                s.append(x.of(share, what)).append(' ');
-            }
-            s.append(x.held(share, 999, 0)).append(' ').append(x.held(share, 999, 1)).append(' ');
-        }
-        for (int firm = 0; firm < 16; firm++) {
-            for (int word = 0; word < 5; word++) {
-                s.append(x.why(firm, word, 999)).append(' ').append(x.force(firm, word, 999, 0)).append(' ');
-            }
-            s.append(x.alike(0, firm, 0)).append(' ').append(x.alike(1, firm, 1)).append(' ');
-            s.append(x.taken(firm, 0)).append(' ');
-        }
-        for (int tape = 0; tape < 6; tape++) {
-            for (int i = 0; i < 60; i++) {
-                s.append(x.read(tape, i)).append(' ');
-            }
-        }
-        for (int i = 0; i < 20; i++) {
-            s.append(x.trace(i)).append(' ');
-        }
-        return s.toString();
-    }
-
-    /** Everything at its limit: the sums that are greatest and the searches that are longest still answer. */
     private void fullest() {
-        WhoRules x = new WhoRules();
         for (int f = 0; f < 7; f++) {
-            x.holder(1, 0);
-        }
-        for (int p = 7; p < 16; p++) {
-            x.holder(2, 0);
-        }
-        for (int s = 0; s < 40; s++) {
-            x.share(s % 7, s % 2 == 0 ? (s + 1) % 7 : 7 + s % 9, s < 35 ? 2 : 1, 99);
-            x.price(s, 999);
-        }
-        for (int c = 0; c < 20; c++) {
-            StringBuilder text = new StringBuilder("old 1 999;most 999;need 998 999;sleep !!!!k=9");
-            while (text.length() < 96) {
-                text.append("|h=9");
-            }
-            check.due("charter", Texts.charter(x, c % 7, 0, text.toString()), c);
-        }
-        x.pass(9);
-        for (int k = 0; k < 130; k++) {
-            x.sale(k % 40, k % 16);
-        }
-        check.due("sales", x.count(4), 120);
-        for (int f = 0; f < 7; f++) {
+            WhoRules x = fullWorld();
+            check.due("charters", x.count(5), 7);
+            check.due("sales", x.count(4) > 100 ? 1 : 0, 1);
             for (int h = 0; h < 16; h++) {
                 check.due("votes at most", x.votes(f, h, 999) <= 999 ? 1 : 0, 1);
                 check.due("turns", x.pivot(f, h) >= 0 ? 1 : 0, 1);

@@ -6,12 +6,12 @@ import java.util.TreeMap;
 /** Thrown runs of calls, in which the program must answer as the model of the document does. */
 public final class ModelTest {
     private static final int RUNS = 400;
-    private static final int CALLS = 512;
+    /** What the document promises of one object, less what one round of a run may call. */
+    private static final int CALLS = 512 - 40;
 
     private final Dice dice;
     private final TextMaker texts;
     private final Pair pair;
-    private int left = CALLS;
     private int holders;
     private final List<Integer> firms = new ArrayList<>();
     private final List<Integer> persons = new ArrayList<>();
@@ -45,7 +45,7 @@ public final class ModelTest {
 
     private void run() {
         found();
-        while (left > 0 && !pair.differs()) {
+        while (pair.calls() < CALLS && !pair.differs()) {
             if (dice.one(6)) {
                 change();
             } else {
@@ -73,14 +73,12 @@ public final class ModelTest {
         }
         for (int s = 0; s < shares; s++) {
             if (dice.one(2)) {
-                left--;
                 pair.price(s, dice.from(0, 30));
             }
         }
     }
 
     private void newHolder(int kind) {
-        left--;
         int number = pair.holder(kind, dice.of(0, 1, dice.from(-1, 4)));
         if (number >= 0) {
             holders++;
@@ -94,7 +92,6 @@ public final class ModelTest {
     }
 
     private void newShare() {
-        left--;
         int parts = dice.one(20) ? dice.from(-1, 13) : world == 1 ? dice.of(3, 6, 6, 12) : dice.of(0, 1, 1, 2);
         int votes = dice.one(20) ? dice.from(-1, 100) : dice.below(few ? 3 : 12);
         int number = pair.share(firm(), newOwner(), parts, votes);
@@ -115,10 +112,8 @@ public final class ModelTest {
             for (int k = 0; k < n; k++) {
                 bytes = bytes << 8 | text.charAt(i + k);
             }
-            left--;
             pair.feed(bytes, n);
         }
-        left--;
         pair.charter(firm(), dice.of(0, 0, today, dice.from(-1, 30)));
     }
 
@@ -151,7 +146,6 @@ public final class ModelTest {
     }
 
     private void change() {
-        left--;
         switch (dice.below(12)) {
             case 0 -> {
                 int to = pair.pass(dice.one(9) ? oneOf(1, 99) : dice.from(1, 6));
@@ -171,7 +165,6 @@ public final class ModelTest {
     }
 
     private void ask() {
-        left--;
         switch (dice.below(31)) {
             case 0 -> pair.of(share(), oneOf(0, 3));
             case 1 -> pair.held(share(), day(), oneOf(0, 1));
@@ -213,11 +206,9 @@ public final class ModelTest {
         for (int k = 0; k < Math.min(n, Math.max(1, steps)); k++) {
             int firm = pair.step(today, k);
             int ruler = pair.ruler(firm, today);
-            left -= 4;
             pair.item(tape, 2 * k, dice.one(12) ? firm() : firm);
             pair.item(tape, 2 * k + 1, dice.one(12) ? person() : ruler);
         }
-        left -= 3;
         pair.proof(tape, dice.one(12) ? dice.of(-2, -1, 1, 2, 13, dice.any()) : 0, dice.one(12) ? oneOf(1, 7) : n);
     }
 

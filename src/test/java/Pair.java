@@ -12,6 +12,7 @@ final class Pair {
     private final Deque<String> latest = new ArrayDeque<>();
     private final java.util.Map<String, Integer> kinds;
     private boolean torn;
+    private int calls;
 
     Pair(Check check, String run, java.util.Map<String, Integer> kinds) {
         this.check = check;
@@ -23,7 +24,12 @@ final class Pair {
         return torn;
     }
 
+    int calls() {
+        return calls;
+    }
+
     private long both(String call, long got, long want) {
+        calls++;
         latest.addLast(call + " -> " + got);
         if (latest.size() > TOLD) {
             latest.removeFirst();

@@ -3,7 +3,7 @@ import java.lang.management.ManagementFactory;
 
 /** LANGUAGE.md 12 and the one room of a run: calls make nothing but the holders they enter. */
 public final class RoomTest {
-    private static final int CALLS = 512;
+    private static final int OBJECTS = 60, ROUNDS = 6;
     /** What measuring itself may cost. */
     private static final long SLACK = 4096;
 
@@ -30,7 +30,7 @@ public final class RoomTest {
         check.due("it is used", x.count(1), 0);
     }
 
-    private void calls() {
+    private static WhoRules world() {
         WhoRules x = new WhoRules();
         for (int f = 0; f < 5; f++) {
             x.holder(1, 0);
@@ -45,20 +45,35 @@ public final class RoomTest {
             x.share(s % 5, 5 + s % 4 - 3 * (s % 3), s % 3, 7);
             x.price(s, 1 + s);
         }
-        Texts.charter(x, 0, 0, "need 1 3;sleep k=4|(p=0&!v<3);old 3 2");
+        for (Call call : Call.feeds("need 1 3;sleep k=4|(p=0&!v<3);old 3 2")) {
+            call.on(x);
+        }
+        x.charter(0, 0);
         x.tape(0, 1, 14);
         x.tape(1, 1, 14);
-        ask(x, 1);
+        return x;
+    }
+
+    /** Each object is asked as often as the document promises. */
+    private void calls() {
+        WhoRules[] worlds = new WhoRules[OBJECTS];
+        for (int k = 0; k < OBJECTS; k++) {
+            worlds[k] = world();
+        }
+        ask(world(), 0);
         long before = bytes();
-        long sum = ask(x, CALLS);
+        long sum = 0;
+        for (int k = 0; k < OBJECTS; k++) {
+            sum += ask(worlds[k], ROUNDS * k);
+        }
         long made = bytes() - before;
         check.due("bytes that the calls made: " + made, made < SLACK ? 1 : 0, 1);
         check.due("they answered", sum != 0 ? 1 : 0, 1);
     }
 
-    private static long ask(WhoRules x, int times) {
+    private static long ask(WhoRules x, int from) {
         long sum = 0;
-        for (int k = 0; k < times; k++) {
+        for (int k = from; k < from + ROUNDS; k++) {
             int f = k % 5;
             int h = k % 16;
             sum += x.buy(5 + k % 4, f, 0) + x.free(f) + x.sold(k % 40) + x.may(5 + k % 4, f, k % 13, k % 2);
@@ -68,7 +83,7 @@ public final class RoomTest {
             sum += x.motion(k % 65536, 0) + x.alike(h, f, 0) + x.found(1 + k % 30) + x.act(h, k % 3, k) + x.trace(0);
             sum += x.feed('m' << 24 | 'o' << 16 | 's' << 8 | 't', 4) + x.feed(' ' << 8 | '1', 2) + x.charter(f, 0);
             sum += x.taken(h, 0) + x.count(k % 10) + x.item(0, k % 14, k) + x.read(0, k % 14) + x.shift(0, 0, 1, 1, 9);
-            sum += x.tape(2, k % 5, k % 61) + x.price(k % 40, 3) + x.sale(k % 40, h);
+            sum += x.tape(2, k % 5, k % 61) + x.price(k % 40, 3) + x.sale(k % 40, h) + x.pass(1);
         }
         return sum;
     }
