@@ -71,6 +71,8 @@ public final class EdgesOfRuleTest {
                 + "'need 0 1' charter(1,0)", "ruler(1,0)", 2);
         edges.due("as it is then: not of FIRMS behind", "2*holder(1,0) 2*holder(2,0) share(1,2,1,1) share(0,1,1,9) share(0,3,1,1) "
                 + "'need 0 1' charter(0,0)", "ruler(0,0)", 3);
+        edges.due("in rounds: one that is passed over is asked again behind the others", "3*holder(1,0) 2*holder(2,0) share(0,1,1,1) share(0,2,1,2) "
+                + "share(1,4,1,1) share(2,3,1,1) 'need 0 1' charter(0,0)", "ruler(0,0)", 3, "ruler(1,0)", 4, "step(0,2)", 0);
         edges.due("till a round brings none: seven rounds", SEVEN + "holder(2,0) share(6,7,1,1) share(5,6,1,1) share(4,5,1,1) share(3,4,1,1) "
                 + "share(2,3,1,1) share(1,2,1,1) share(0,1,1,1)", "ruler(0,0)", 7, "ruler(3,0)", 7, "ruler(6,0)", 7, "step(0,6)", 0,
                 "step(0,0)", 6);
@@ -122,6 +124,10 @@ public final class EdgesOfRuleTest {
         edges.of(16);
         edges.due("all seven, in one round", SEVEN + "holder(2,0) share(0,7,1,1) share(1,7,1,1) share(2,7,1,1) share(3,7,1,1) share(4,7,1,1) "
                 + "share(5,7,1,1) share(6,7,1,1)", "step(0,-1)", 7, "step(0,0)", 0, "step(0,6)", 6, "step(0,7)", -1);
+        edges.due("in rounds: the others ahead of one that was passed over", "3*holder(1,0) holder(2,0) share(0,1,1,1) share(1,3,1,1) share(2,3,1,1)",
+                "step(0,-1)", 3, "step(0,0)", 1, "step(0,1)", 2, "step(0,2)", 0);
+        edges.due("in rounds: FIRMS by numbers in each", "5*holder(1,0) holder(2,0) share(0,1,1,1) share(1,3,1,1) share(2,1,1,1) share(3,5,1,1) "
+                + "share(4,3,1,1)", "step(0,0)", 3, "step(0,1)", 4, "step(0,2)", 1, "step(0,3)", 2, "step(0,4)", 0);
         edges.due("the order in which they got one", SEVEN + "holder(2,0) share(3,7,1,1) share(1,3,1,1) share(5,1,1,1) share(2,5,1,1)",
                 "step(0,-1)", 4, "step(0,0)", 3, "step(0,1)", 1, "step(0,2)", 5, "step(0,3)", 2, "step(0,4)", -1);
     }

