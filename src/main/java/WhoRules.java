@@ -1049,16 +1049,20 @@ public final class WhoRules {
 
         private boolean readOne(int depth) {
             if (depth < NEST_MOST && takes('!')) {
-                if (!readOne(depth + 1)) {
-                    return false;
-                }
-                put(NOT);
-                return true;
+                return readNot(depth + 1);
             }
             if (depth < NEST_MOST && takes('(')) {
                 return readAny(depth + 1) && takes(')');
             }
             return readTest();
+        }
+
+        private boolean readNot(int depth) {
+            if (!readOne(depth)) {
+                return false;
+            }
+            put(NOT);
+            return true;
         }
 
         private boolean readTest() {
@@ -1363,6 +1367,8 @@ public final class WhoRules {
     /** What must be looked for among many: rows of rulers, sets of shares, ways to vote. */
     private static final class Search {
         private static final int PICKED_MOST = 8;
+        /** More than all shares together can cost. */
+        private static final int BEYOND_PRICE = SHARES * PRICE_MOST + 1;
 
         private final Register register;
         private final Rule rule;
@@ -1426,7 +1432,7 @@ public final class WhoRules {
                 for (int a = 0; a < register.firmCount; a++) {
                     if ((set >> a & 1) == 1) {
                         sum += rule.votes[firm][register.firms[a]];
-                        agreed |= register.firms[a] == gold;
+                        agreed = agreed || register.firms[a] == gold;
                     }
                 }
                 bits |= sum > rule.tooFew[firm] && agreed ? 1 << set : 0;
@@ -1489,11 +1495,11 @@ public final class WhoRules {
             listOthers(there & ~(1 << mine) & ~golden);
             int tooFew = rule.tooFew[firm];
             if (golden == 1 << mine) {
-                return ways(0, tooFew + 1 - blockSum[mine], rest[0]);
+                return ways(other, rest, 0, otherCount, tooFew + 1 - blockSum[mine], rest[0]);
             }
             // Without a yes of the golden block nothing carries, so it says yes in all ways that count.
             tooFew -= golden == 0 ? 0 : blockSum[rule.voice(rule.gold[firm])];
-            return ways(0, tooFew + 1 - blockSum[mine], tooFew);
+            return ways(other, rest, 0, otherCount, tooFew + 1 - blockSum[mine], tooFew);
         }
 
         /** Sums up the votes of each block in a firm: the blocks that have some, as bits. */
@@ -1522,15 +1528,22 @@ public final class WhoRules {
             }
         }
 
-        /** How many sets of the other blocks from k on have low to high votes together. */
-        private int ways(int k, int low, int high) {
-            if (k > otherCount || high < 0 || low > rest[k]) {
+        /**
+         * How many sets of the blocks from k to the end have low to high votes together. All that are
+         * left to choose are counted at once when none of them can leave these bounds.
+         */
+        private static int ways(int[] votes, int[] rest, int k, int end, int low, int high) {
+            if (k < 0 || k > end || end > HOLDERS || high < 0 || low > rest[k]) {
                 return 0;
             }
             if (low <= 0 && high >= rest[k]) {
-                return 1 << (otherCount - k);
+                return 1 << (end - k);
             }
-            return ways(k + 1, low, high) + ways(k + 1, low - other[k], high - other[k]);
+            if (k == end) {
+                return 0;
+            }
+            return ways(votes, rest, k + 1, end, low, high)
+                    + ways(votes, rest, k + 1, end, low - votes[k], high - votes[k]);
         }
 
         /** The cheapest shares with which a ruler rules a firm, as bits, or NOBODY. */
@@ -1538,7 +1551,7 @@ public final class WhoRules {
             rule.look(register.today);
             pickForSale(ruler);
             int best = NONE;
-            int bestPrice = Integer.MAX_VALUE;
+            int bestPrice = BEYOND_PRICE;
             for (int set = 0; set < 1 << pickedCount; set++) {
                 int price = register.priceOf(sharesOf(set));
                 boolean fewer = best >= 0 && Integer.bitCount(set) < Integer.bitCount(best);
@@ -1790,7 +1803,7 @@ public final class WhoRules {
             for (int size = 1; size <= register.firmCount; size++) {
                 for (int a = 0; a < register.firmCount; a++) {
                     path[0] = register.firms[a];
-                    if (closes(1, size)) {
+                    if (closes(has, path, 1, size)) {
                         return size;
                     }
                 }
@@ -1802,7 +1815,7 @@ public final class WhoRules {
          * Whether the path so far can be made a ring of a size. As no ring of a lesser size is there,
          * no firm can come twice; the first one is the least, for rows are told from that on.
          */
-        private boolean closes(int told, int size) {
+        private static boolean closes(int[] has, int[] path, int told, int size) {
             if (told < 1 || told > FIRMS) {
                 return false;
             }
@@ -1810,11 +1823,10 @@ public final class WhoRules {
             if (told == size) {
                 return (has[last] >> path[0] & 1) == 1;
             }
-            for (int a = 0; a < register.firmCount; a++) {
-                int next = register.firms[a];
-                if (next > path[0] && (has[last] >> next & 1) == 1) {
+            for (int next = path[0] + 1; next < HOLDERS && told < FIRMS; next++) {
+                if ((has[last] >> next & 1) == 1) {
                     path[told] = next;
-                    if (closes(told + 1, size)) {
+                    if (closes(has, path, told + 1, size)) {
                         return true;
                     }
                 }
