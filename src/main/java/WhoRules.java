@@ -494,7 +494,7 @@ public final class WhoRules {
         return tape >= 0 && tape < TAPES;
     }
 
-    /** Whether a tape has n places from i on; one that holds nothing has size 0. */
+    /** A tape that holds nothing has size 0, so that it need not be told apart here. */
     private boolean hasPlaces(int tape, int i, int n) {
         return i >= 0 && n >= 0 && i <= tapeSize[tape] - n;
     }
@@ -514,7 +514,7 @@ public final class WhoRules {
         }
     }
 
-    /** How many pairs on a tape are good from the first on; one that is not whole ends them. */
+    /** A pair that is not whole ends the good ones, as one that is not good does. */
     private int goodPairs(int tape, int i, int n) {
         rule.look(register.today);
         rule.tally();
@@ -551,7 +551,7 @@ public final class WhoRules {
         return times;
     }
 
-    /** The persons that are as one with a person, through others too, and itself: as bits. */
+    /** As bits, the person itself among them; each is asked once, and brings others. */
     private int asOneWith(int person, int n) {
         int set = 1 << person;
         int asked = 0;
@@ -567,7 +567,7 @@ public final class WhoRules {
         return set;
     }
 
-    /** The persons outside a set that are as one with a person directly: as bits. */
+    /** As bits; those of the set are there already, so they need not be asked. */
     private int agreeingWith(int a, int n, int set) {
         int agreeing = 0;
         for (int b = 0; b < register.holderCount; b++) {
@@ -591,7 +591,7 @@ public final class WhoRules {
             this.trace = trace;
         }
 
-        /** Behind the bodies that are kept, the trace counts all that ran. */
+        /** The row is the face's, for whom it is kept; its last place counts all bodies, kept or not. */
         final void begin(int body) {
             int ran = trace[BODIES_KEPT];
             if (ran >= 0 && ran < BODIES_KEPT) {
@@ -600,7 +600,6 @@ public final class WhoRules {
             trace[BODIES_KEPT] = ran + 1;
         }
 
-        /** Whether it is of a kind, or of one under that. */
         final boolean isUnder(int kind) {
             switch (kind) {
                 case PLAIN:
@@ -763,7 +762,6 @@ public final class WhoRules {
             return isHolder(i) ? holders[i] : null;
         }
 
-        /** A new holder's number, or FULL. */
         int enter(int kindOf, int family, int[] trace) {
             if (holderCount >= HOLDERS || kindOf == FIRM && firmCount >= FIRMS) {
                 return FULL;
@@ -818,7 +816,6 @@ public final class WhoRules {
             return sum;
         }
 
-        /** A new share's number, or FULL. */
         int issue(int ofFirm, int holder, int partsOf, int votesOf) {
             if (shareCount >= SHARES) {
                 return FULL;
@@ -845,7 +842,7 @@ public final class WhoRules {
             return moveCount - shareCount;
         }
 
-        /** Fills the rows of owners with those of a day. */
+        /** The days of moves never fall, so the last move up to a day tells whose a share is then. */
         void lookAt(int day) {
             Arrays.fill(owner, NOBODY);
             Arrays.fill(since, NOBODY);
@@ -897,7 +894,7 @@ public final class WhoRules {
             }
         }
 
-        /** Reads the text as the next charter, and empties it: the fault, or NONE. */
+        /** The fault, or NONE. A faulty text is gone, too; the next one is read in its place. */
         int parse() {
             at = 0;
             codeEnd = count * TEXT_MOST;
@@ -915,7 +912,7 @@ public final class WhoRules {
             return at;
         }
 
-        /** The charter that was read is one from now on: its number. */
+        /** Apart from reading, for only a text without a fault is a charter. */
         int enact(int firm, int day) {
             firmOf[count] = firm;
             dayOf[count] = day;
@@ -1130,13 +1127,15 @@ public final class WhoRules {
             return w == NEED ? 2 : 1;
         }
 
-        /** What a clause tells as one number. */
         int told(int clause, int w) {
             int n = firstOf(clause, w);
             return w == NEED || w == OLD ? 1000 * n + secondOf(clause, w) : n;
         }
 
-        /** Whether a sleep clause holds for facts that stand in the order of the letters. */
+        /**
+         * The facts stand in the order of the letters. Nesting is bounded, so the bits of a number are
+         * stack enough.
+         */
         boolean holds(int clause, int[] facts) {
             int stack = 0;
             for (int i = first[clause]; i < second[clause]; i++) {
@@ -1184,7 +1183,7 @@ public final class WhoRules {
             this.charters = charters;
         }
 
-        /** Turns to a day: its charters, and its owners of shares. */
+        /** The clauses in force are found once here, for searches weigh shares by them many times. */
         void look(int onDay) {
             day = onDay;
             for (int a = 0; a < register.firmCount; a++) {
@@ -1201,7 +1200,6 @@ public final class WhoRules {
             }
         }
 
-        /** A share is as it was on the day. */
         void restore(int s) {
             owner[s] = register.owner[s];
             weight[s] = weigh(s, owner[s], register.since[s]);
@@ -1244,7 +1242,7 @@ public final class WhoRules {
             return holder >= 0 && sleeps(firm, s, holder, day - register.since[s]) ? 1 : 0;
         }
 
-        /** Counts the votes of all holders by the owners as they are supposed. */
+        /** Apart from look(), for a caller may suppose other owners in between. */
         void tally() {
             for (int a = 0; a < register.firmCount; a++) {
                 Arrays.fill(votes[register.firms[a]], 0);
@@ -1301,7 +1299,7 @@ public final class WhoRules {
             }
         }
 
-        /** A firm without a ruler gets one, whose group has the firm's votes from now on. */
+        /** The group gains the firm's votes alone, so its sums need not be made anew. */
         private void crown(int firm, int ruler) {
             block[firm] = ruler;
             for (int a = 0; a < register.firmCount; a++) {
@@ -1314,7 +1312,7 @@ public final class WhoRules {
             }
         }
 
-        /** Takes a pair of a proof, if it is good: whether it is. */
+        /** A good pair of a proof counts for the pairs behind it. */
         boolean tells(int firm, int ruler) {
             if (!register.isFirm(firm) || !register.isRuler(ruler)) {
                 return false;
@@ -1326,7 +1324,7 @@ public final class WhoRules {
             return true;
         }
 
-        /** From nobody ruling on, till a round brings no ruler. */
+        /** Each round but the last brings a ruler, so there is at most one round more than firms. */
         void least() {
             tally();
             clear();
@@ -1358,7 +1356,7 @@ public final class WhoRules {
             return NOBODY;
         }
 
-        /** As whom a holder votes, once it is settled who rules. */
+        /** A firm without a ruler votes alone. */
         int voice(int holder) {
             return block[holder] >= 0 ? block[holder] : holder;
         }
@@ -1482,7 +1480,6 @@ public final class WhoRules {
             return NOBODY;
         }
 
-        /** In how many ways of the other blocks a holder's block turns a motion. */
         int turns(int firm, int holder) {
             rule.look(register.today);
             rule.least();
@@ -1502,7 +1499,7 @@ public final class WhoRules {
             return ways(other, rest, 0, otherCount, tooFew + 1 - blockSum[mine], tooFew);
         }
 
-        /** Sums up the votes of each block in a firm: the blocks that have some, as bits. */
+        /** The blocks that have votes in a firm, as bits. */
         private int sumBlocks(int firm) {
             Arrays.fill(blockSum, 0);
             int there = 0;
@@ -1546,7 +1543,7 @@ public final class WhoRules {
                     + ways(votes, rest, k + 1, end, low - votes[k], high - votes[k]);
         }
 
-        /** The cheapest shares with which a ruler rules a firm, as bits, or NOBODY. */
+        /** Sets are tried in order, so of several alike the first is the least; the empty one is of them. */
         long cheapest(int ruler, int firm) {
             rule.look(register.today);
             pickForSale(ruler);
@@ -1606,7 +1603,6 @@ public final class WhoRules {
             return rule.block[firm];
         }
 
-        /** The firms whose ruler is not the same without a share, as bits. */
         int changedWithout(int share) {
             rule.look(register.today);
             rule.least();
@@ -1621,7 +1617,7 @@ public final class WhoRules {
             return changed;
         }
 
-        /** The fewest shares of its ruler's group without which a firm has no ruler, as bits, or NOBODY. */
+        /** Without the empty set the firm has its ruler, so that one is not tried. */
         long fewestToFree(int firm) {
             rule.look(register.today);
             rule.least();
@@ -1641,7 +1637,7 @@ public final class WhoRules {
             return best < 0 ? NOBODY : sharesOf(best);
         }
 
-        /** Whether a ruler rules a firm with all hidden shares of a holder, or of NOBODY. */
+        /** The hidden shares that are the holder's already keep their age. */
         boolean rulesHidden(int ruler, int firm, int h, int holder) {
             rule.look(register.today);
             for (int s = 0; s < register.shareCount; s++) {
@@ -1709,7 +1705,6 @@ public final class WhoRules {
             return open;
         }
 
-        /** Whether something of a firm's coin comes to a holder that is no firm, or to an open one. */
         private boolean givesOut(int firm, int open) {
             for (int h = 0; h < register.holderCount; h++) {
                 if (parts[firm][h] > 0 && (!register.isFirm(h) || (open >> h & 1) == 1)) {
@@ -1719,7 +1714,7 @@ public final class WhoRules {
             return false;
         }
 
-        /** Finds what of a firm's coin comes to a holder at last. */
+        /** What comes to a hollow firm never comes back, so that only open ones have a line. */
         void unroll(int firm, int holder) {
             load();
             above = 0;
@@ -1790,7 +1785,7 @@ public final class WhoRules {
             return x;
         }
 
-        /** Finds the ring of the fewest firms, the least row of these: how many firms, or 0. */
+        /** Sizes and firms are tried in order, so the first ring that closes is the one that is told. */
         int findRing() {
             load();
             Arrays.fill(has, 0);
@@ -1834,7 +1829,7 @@ public final class WhoRules {
             return false;
         }
 
-        /** The fewest of the shares of firms in firms without which there is no ring, as bits. */
+        /** Sets are tried in order, so of several of a size the first is the least. */
         long fewestToBreak() {
             int cutCount = listCuts();
             int best = 0;
