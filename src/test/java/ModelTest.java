@@ -20,11 +20,14 @@ public final class ModelTest {
     /** 0 anything, 1 firms that own firms whole, 2 many persons in few firms, 3 firms ruled in chains. */
     private final int world;
     private final boolean few;
+    /** What a run does time and again, so that its limit is reached: 0 shares, 1 sales, 2 texts, 3 motions; else nothing. */
+    private final int crowd;
 
     private ModelTest(long seed, Check check, Map<String, Integer> kinds) {
         dice = new Dice(seed);
         world = dice.below(4);
         few = dice.one(3);
+        crowd = dice.below(8);
         texts = new TextMaker(dice);
         pair = new Pair(check, "run " + seed, kinds);
     }
@@ -40,13 +43,20 @@ public final class ModelTest {
         if (args.length > 2) {
             kinds.forEach((k, v) -> System.out.println(k + ": " + v));
         }
+        if (runs >= RUNS) {
+            for (String call : List.of("holder", "share", "sale", "feed", "charter", "motion")) {
+                check.due("FULL was reached by " + call, kinds.containsKey(call + " " + WhoRules.FULL) ? 1 : 0, 1);
+            }
+        }
         check.end();
     }
 
     private void run() {
         found();
         while (pair.calls() < CALLS && !pair.differs()) {
-            if (dice.one(6)) {
+            if (crowd < 4 && dice.one(2)) {
+                crowd();
+            } else if (dice.one(6)) {
                 change();
             } else {
                 ask();
@@ -156,12 +166,23 @@ public final class ModelTest {
             case 4 -> pair.price(share(), dice.one(9) ? oneOf(0, 999) : dice.from(0, 9));
             case 5, 6, 7 -> pair.sale(share(), dice.of(holder(), firm(), person()));
             case 8 -> newText(texts.text());
-            case 9, 10 -> {
-                int yes = set();
-                pair.motion(yes, dice.one(20) ? set() : set() & ~yes);
-            }
+            case 9, 10 -> newMotion();
             default -> pair.feed(dice.any(), oneOf(0, 4));
         }
+    }
+
+    private void crowd() {
+        switch (crowd) {
+            case 0 -> newShare();
+            case 1 -> pair.sale(share(), dice.of(holder(), firm(), person()));
+            case 2 -> newText(texts.shortText());
+            default -> newMotion();
+        }
+    }
+
+    private void newMotion() {
+        int yes = set();
+        pair.motion(yes, dice.one(20) ? set() : set() & ~yes);
     }
 
     private void ask() {

@@ -15,7 +15,15 @@ final class TextMaker {
         if (dice.one(5)) {
             spoil(s);
         }
-        return s.length() > 100 ? s.substring(0, 100) : s.toString();
+        return cut(s.toString());
+    }
+
+    String shortText() {
+        return cut(clause());
+    }
+
+    private static String cut(String text) {
+        return text.substring(0, Math.min(100, text.length()));
     }
 
     private void spoil(StringBuilder s) {
